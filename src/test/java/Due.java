@@ -33,7 +33,8 @@ final class Due {
         try {
             got = x.at(cell, i);
         } catch (ArrayIndexOutOfBoundsException e) {
-            got = -1;
+            // The machine's own exception has a text that tells the index.
+            got = e.getMessage() == null ? -1 : -2;
         }
         is("at(" + cell + ", " + i + ")", got, want);
     }

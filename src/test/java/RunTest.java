@@ -18,6 +18,7 @@ public final class RunTest {
         displaying();
         walkedActsAreBounded();
         rowIsFull();
+        risingKeys();
         deepNesting();
         due.finish();
     }
@@ -291,6 +292,10 @@ public final class RunTest {
         due.is("a digit alone", x.run(4), 1);
         shows(x, 4, 80, "0");
         due.is("second", x.second(), 11);
+        x.cell(3, 0);
+        x.node(9, 3, 501);
+        due.is("display of 0", x.run(5), 1);
+        shows(x, 5, 1, "000 ");
     }
 
     private static PlainCobol filler(int rounds) {
@@ -355,6 +360,36 @@ public final class RunTest {
         due.is("one act more", x.run(7), 2);
         due.is("not refused", x.refused(), 0);
         due.is("second", x.second(), 1000);
+    }
+
+    private static void risingKeys() {
+        PlainCobol x = filler(495);
+        x.cell(6, 0);
+        x.cell(4, 495);
+        x.node(2, 2, 4);
+        x.node(10, 4, 1);
+        x.node(6, 5, 6);
+        x.node(6, 1, 7);
+        x.node(8, 1, 8);
+        x.node(1, 5, 1);
+        due.is("495 acts", x.run(9), 1);
+        due.is("once more", x.run(10), 1);
+        due.is("495 acts", x.run(9), 1);
+        for (int i = 0; i < 990; i += 109) {
+            due.is("key", x.record(0, i, 0), i + 1);
+            due.is("value", x.record(0, i, 1), 494 - i % 495);
+        }
+        x.act(1, 1, 990, 0);
+        x.act(1, 1, 991, 0);
+        x.act(1, 1, 800, 0);
+        x.act(1, 0, 2000000, 5);
+        due.is("commit", x.commit(1), 4);
+        due.is("behind the gap", x.record(0, 799, 0), 801);
+        due.is("the last", x.record(0, 987, 0), 989);
+        due.is("gone", x.record(0, 988, 0), PlainCobol.NONE);
+        due.is("in another file", x.record(2, 0, 1), 5);
+        due.is("records", x.count(3), 989);
+        due.is("second", x.second(), 989);
     }
 
     private static void deepNesting() {

@@ -75,6 +75,10 @@ public final class SegmentTest {
         numbers(x);
         insert(x, 0, 7);
         numbers(x, 7);
+        insert(x, 7, 8);
+        insert(x, 8, 9);
+        x.act(1, 3, 7, 0);
+        numbers(x);
         due.is("not refused", x.refused(), 0);
     }
 
