@@ -24,7 +24,7 @@ public final class ModelTest {
     }
 
     public static void main(String[] args) {
-        for (int seed = 0; seed < 1200 && !due.hasWrong(); seed++) {
+        for (int seed = 0; seed < 4000 && !due.hasWrong(); seed++) {
             ModelTest test = new ModelTest(seed);
             for (int call = 0; call < 512; call++) {
                 test.call();
@@ -124,27 +124,36 @@ public final class ModelTest {
             x.act(unit, kind, a, b), model.act(unit, kind, a, b));
     }
 
+    /** One call alone, so that a run has 512 of them. */
     private void look() {
         int cell = someCell();
-        int i = some(0, 18);
-        due.at(x, cell, i, model.at(cell, i));
-        check("number(" + cell + ")", x.number(cell), model.number(cell));
-        due.isReal(name + "real(" + cell + ")", x.real(cell), model.real(cell));
-        int file = some(0, 3);
-        int place = some(0, Math.max(4, model.count(3)));
-        int what = some(0, 2);
-        check("record(" + file + ", " + place + ", " + what + ")",
-            x.record(file, place, what), model.record(file, place, what));
-        int order = some(0, model.count(4));
-        what = some(0, 4);
-        check("segment(" + order + ", " + what + ")", x.segment(order, what), model.segment(order, what));
-        int line = some(1, 24);
-        int column = some(1, 80);
-        check("screen(" + line + ", " + column + ")", x.screen(line, column), model.screen(line, column));
-        check("second()", x.second(), model.second());
-        check("refused()", x.refused(), model.refused());
-        for (what = -1; what <= 6; what++) {
-            check("count(" + what + ")", x.count(what), model.count(what));
+        int what = some(0, 5);
+        switch (pick(9)) {
+            case 0 -> {
+                int i = some(0, 18);
+                due.at(x, cell, i, model.at(cell, i));
+            }
+            case 1 -> check("number(" + cell + ")", x.number(cell), model.number(cell));
+            case 2 -> due.isReal(name + "real(" + cell + ")", x.real(cell), model.real(cell));
+            case 3 -> lookAtRecord(some(0, 3), some(0, Math.max(4, model.count(3))), what / 2);
+            case 4 -> lookAtSegment(some(0, model.count(4)), what);
+            case 5 -> lookAtScreen(some(1, 24), some(1, 80));
+            case 6 -> check("second()", x.second(), model.second());
+            case 7 -> check("refused()", x.refused(), model.refused());
+            default -> check("count(" + what + ")", x.count(what), model.count(what));
         }
+    }
+
+    private void lookAtRecord(int file, int i, int what) {
+        check("record(" + file + ", " + i + ", " + what + ")",
+            x.record(file, i, what), model.record(file, i, what));
+    }
+
+    private void lookAtSegment(int i, int what) {
+        check("segment(" + i + ", " + what + ")", x.segment(i, what), model.segment(i, what));
+    }
+
+    private void lookAtScreen(int row, int column) {
+        check("screen(" + row + ", " + column + ")", x.screen(row, column), model.screen(row, column));
     }
 }
